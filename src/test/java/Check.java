@@ -79,4 +79,25 @@ final class Check {
     for (int i = 0; i < 5; i++) sum = sum * 10 + x.status(i);
     return sum;
   }
+
+  /** 8 PAGES, 3 CORES, hold 2: ROOM 0 (SIZE 4, SERIAL 1) with PAGE 0 ROOT, 1 SLOTS, 2 ENTRY, 3 and 4 PLAIN; SEALED. */
+  static ClosedRooms house() {
+    ClosedRooms x = machine("pages 8;cores 3;hold 2;key 7");
+    x.create(4);
+    x.slots();
+    x.add(0, 0, 1, 4, 11);
+    x.add(0, 1, 0, 3, 50);
+    x.add(0, 2, 0, 7, 60);
+    x.seal(0, room(x, 0, 3));
+    return x;
+  }
+
+  /** The house, its PLAIN page of ADDRESS 1 out: COPY 0, VERSION 1 in SLOT 0; EPOCH 1. */
+  static ClosedRooms houseWithCopy() {
+    ClosedRooms x = house();
+    x.block(3);
+    x.track(0);
+    x.evict(3, 1, 0);
+    return x;
+  }
 }
