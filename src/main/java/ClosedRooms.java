@@ -323,12 +323,16 @@ public final class ClosedRooms {
 
   /** An ACT by its sort and numbers: its answer, or the one for refused ones, which STATUS counts. */
   private int act(int sort, int ifRefused, int a, int b, int c, int d, int e) {
-    past[pastNext].take(world);
+    pastRow().take(world);
     int answer = acts.carryOut(sort, a, b, c, d, e);
     if (keepsAct(sort, a, answer)) return answer;
     int reason = acts.refusal;
     if (reason >= 0 && reason < REASONS) refused[reason]++;
     return ifRefused;
+  }
+
+  private World pastRow() {
+    return past[Math.floorMod(pastNext, PAST_ROWS)];
   }
 
   /** Whether the ACT just tried was done; if so, the LOG has it and it can be UNDONE. */
@@ -367,7 +371,7 @@ public final class ClosedRooms {
   public int undo() {
     if (undoable <= 0) return NONE;
     pastNext = Math.floorMod(pastNext - 1, PAST_ROWS);
-    world.take(past[pastNext]);
+    world.take(pastRow());
     undoable--;
     return undoable;
   }
@@ -489,7 +493,7 @@ public final class ClosedRooms {
   }
 
   private boolean doesStep(Script s, int i) {
-    past[pastNext].take(world);
+    pastRow().take(world);
     int answer = acts.carryOutStep(s, i);
     return keepsAct(s.told(i, 0), s.told(i, 1), answer);
   }

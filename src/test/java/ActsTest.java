@@ -7,8 +7,10 @@ public final class ActsTest {
 
   public static void main(String[] args) {
     promise14Create();
+    promise14NothingOfAnother();
     promise15Slots();
     promise16Add();
+    promise16AddAnew();
     promise16AddRefused();
     promise17Extend();
     promise18Seal();
@@ -81,6 +83,32 @@ public final class ActsTest {
     refused(x, "no FREE PAGE", x.create(1), N, 3, was);
   }
 
+  /** A ROOM that comes where one was has nothing of it. */
+  private static void promise14NothingOfAnother() {
+    ClosedRooms x = Check.houseWithCopy();
+    x.remove(4);
+    x.remove(2);
+    x.remove(0);
+    check.is("create", x.create(5), 0);
+    int[] due = {2, 5, 1, 12, 0, 0, 0, 0, 0};
+    for (int what = 0; what < 9; what++) check.is("a new ROOM", Check.room(x, 0, what), due[what]);
+    for (int i = 0; i < 5; i++) check.is("its MAP", x.mapped(0, i), N);
+    check.is("a ROOT where a PLAIN page was", x.create(1) + x.page(2, 0), 2);
+    x.evict(2, 1, 2);
+    check.is("its VALUE", x.change(1, 7), 0);
+    x.remove(0);
+    x = Check.machine("pages 3");
+    x.create(1);
+    x.add(0, 0, 0, 1, 99);
+    x.remove(1);
+    x.slots();
+    x.remove(1);
+    x.create(1);
+    x.slots();
+    x.evict(1, 2, 0);
+    check.is("the VALUE of a ROOT", x.change(0, 7), 0);
+  }
+
   private static void promise15Slots() {
     ClosedRooms x = Check.machine("pages 3");
     check.is("slots", x.slots(), 0);
@@ -117,6 +145,27 @@ public final class ActsTest {
       measure = 31 * measure + 64 * 7 + 5;
     }
     check.is("MEASURE goes round", Check.room(x, 0, 3), measure);
+  }
+
+  /** A page that comes where an ENTRY left in haste was, BLOCKED, is none of both. */
+  private static void promise16AddAnew() {
+    ClosedRooms x = Check.machine("pages 3;cores 1");
+    x.create(2);
+    x.add(0, 0, 1, 1, 9);
+    x.seal(0, Check.room(x, 0, 3));
+    x.enter(0, 0, 0);
+    x.trap(0);
+    x.block(1);
+    x.remove(1);
+    x.create(1);
+    x.remove(1);
+    x.remove(0);
+    x.create(1);
+    x.add(0, 0, 1, 1, 9);
+    check.is("idle", x.page(1, 5), 0);
+    check.is("not BLOCKED", x.page(1, 4), 0);
+    x.seal(0, Check.room(x, 0, 3));
+    check.is("enter", x.enter(0, 0, 0), 1);
   }
 
   private static void promise16AddRefused() {
@@ -561,6 +610,11 @@ public final class ActsTest {
     check.is("VERSION 2", x.copyOf(0, 4), 2);
     check.is("VERSION 2 in the SLOT", x.version(1, 0), 2);
     check.is("VALUE", x.change(0, 1), 60);
+    x.drop(0);
+    x.create(1);
+    x.evict(3, 1, 1);
+    check.is("not changed, where a changed one was", x.copyOf(0, 5), 0);
+    check.is("load", x.load(0, 1, 1), 3);
   }
 
   private static void promise26EvictWaits() {
@@ -779,6 +833,12 @@ public final class ActsTest {
     was = Check.status(x);
     refused(x, "SLOTS not empty", x.remove(1), N, 2, was);
     check.is("ROOT though one is out", x.remove(0), 1);
+    x.create(3);
+    x.add(0, 1, 0, 1, 1);
+    was = Check.status(x);
+    refused(x, "ROOT and one page", x.remove(0), N, 2, was);
+    x.remove(2);
+    check.is("ROOT alone", x.remove(0), 1);
     check.is("the ROOM is there no more", Check.room(x, 0, 0), Check.NO_SUCH_ELEMENT);
     check.is("mapped", x.mapped(0, 0), N);
     was = Check.status(x);
@@ -837,6 +897,17 @@ public final class ActsTest {
     check.is("the other is as it was", x.change(2, 8), 7);
     x.drop(1);
     check.is("the lowest place", x.twice(2), 1);
+    ClosedRooms y = Check.house();
+    y.tell(0, 7);
+    y.enter(0, 0, 0);
+    y.trap(0);
+    y.block(2);
+    y.track(0);
+    y.evict(2, 1, 0);
+    y.twice(0);
+    y.load(1, 1, 0);
+    check.is("left in haste", y.page(2, 5), 2);
+    check.is("what it hid", y.resume(1, 0, 0), 7);
     for (int i = 4; i < 12; i++) x.twice(0);
     int was = Check.status(x);
     refused(x, "no place", x.twice(0), N, 3, was);

@@ -25,6 +25,14 @@ final class Check {
     }
   }
 
+  void is(String what, String got, String due) {
+    asked++;
+    if (!got.equals(due)) {
+      wrong++;
+      System.out.println(name + ": " + what + " is '" + got + "', due is '" + due + "'");
+    }
+  }
+
   void is(String what, boolean got, boolean due) {
     is(what, got ? 1 : 0, due ? 1 : 0);
   }

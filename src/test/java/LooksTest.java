@@ -19,6 +19,7 @@ public final class LooksTest {
     promise38EverySort();
     promise51All();
     promise51FullestRoom();
+    promise51TheFirstOfEach();
     promise54Count();
     check.finish();
   }
@@ -379,6 +380,33 @@ public final class LooksTest {
     check.is("AWAY has none here", x.all(8), 1);
     x.evict(1, 2, 1);
     check.is("none has any: the lowest that is there", x.all(8), 0);
+  }
+
+  private static void promise51TheFirstOfEach() {
+    ClosedRooms x = Check.machine("pages 10");
+    x.slots();
+    x.create(2);
+    check.is("SLOTS in PAGE 0", x.all(6), 4);
+    x.add(0, 0, 0, 1, 5);
+    x.block(2);
+    x.track(0);
+    x.evict(2, 0, 0);
+    check.is("one of PAGE 0 is taken", x.all(6), 3);
+    check.is("PAGE 0 has its VERSION", x.old(), 0);
+    x.load(0, 0, 0);
+    x.remove(0);
+    x.add(0, 1, 1, 1, 7);
+    check.is("a page in PAGE 0", x.page(0, 2), 1);
+    int measure = Check.room(x, 0, 3);
+    check.is("EXTEND by PAGE 0", x.extend(0, 1), 31 * measure + 1007);
+    x.seal(0, Check.room(x, 0, 3));
+    x.enter(0, 0, 1);
+    check.is("CORE 0 inside", x.all(2), 1);
+    x.block(0);
+    check.is("PAGE 0 BLOCKED", x.all(7), 1);
+    x.leave(0);
+    x.track(0);
+    check.is("PAGE 0 is the VICTIM", x.victim(), 0);
   }
 
   private static void promise54Count() {

@@ -53,6 +53,7 @@ public final class ScriptsTest {
     runIs(Check.house(), "enter 0,0,0;touch 0,1,1;touch 0,9,1", 2, 1);
     runIs(Check.house(), "enter 0,0,0;trap 0;resume 1,0,0;leave 1;track 0;block 3;track 0;evict 3,1,0;load 0,1,0", N, N);
     runIs(Check.house(), "map 0,0,3;enter 0,0,0", 1, 4);
+    runIs(Check.house(), "enter 0,0,0;touch 0,1,0;touch 0,2,0;block 3;touch 0,1,0;leave 0;enter 0,0,0;touch 0,1,0", 7, 4);
     runIs(Check.house(), "map 0,0,9", 0, 1);
     runIs(Check.houseWithCopy(), "load 0,1,0;load 0,1,0", 1, 4);
     runIs(Check.houseWithCopy(), "remove 4;remove 2;remove 0;remove 1", 3, 2);

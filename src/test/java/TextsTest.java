@@ -14,6 +14,7 @@ public final class TextsTest {
     promise4FaultOfEveryWord();
     promise5TextOfMachines();
     promise5NewMachine();
+    promise5NothingOfAnother();
     promise5TextOfScripts();
     promise6Rule();
     promise48Step();
@@ -56,6 +57,9 @@ public final class TextsTest {
     check.is("two more", x.feed(0x01000000, 0, 0, 0, 1), 320);
     check.is("one more", x.feed(0, 0, 0, 0, 1), N);
     check.is("none more", x.feed(0, 0, 0, 0, 0), 320);
+    int one = 1 << 16;
+    int[][] singles = {{one, 0, 0, 0, 0}, {0, one, 0, 0, 0}, {0, 0, one, 0, 0}, {0, 0, 0, one, 0}, {0, 0, 0, 0, one}};
+    for (int[] s : singles) check.is("one more, wherever it is", x.feed(s[0], s[1], s[2], s[3], s[4]), N);
     check.is("count(2) full", x.count(2), 320);
   }
 
@@ -144,6 +148,13 @@ public final class TextsTest {
     machineFault("keY 7", 0);
     machineFault("keyX 7", 3);
     machineFault("Key 7", 0);
+    machineFault("xey 7", 0);
+    machineFault("keyz 7", 0);
+    machineFault("akey 7", 0);
+    machineFault(" ".repeat(315) + "key 7", N);
+    machineFault(" ".repeat(317) + "key", 320);
+    machineFault("key 7" + " ".repeat(315), N);
+    machineFault("key " + "0".repeat(315) + "7", N);
     machineFault("key\t7", 3);
     machineFault("key 7\n", 5);
     machineFault("key 7" + (char) 233, 5);
@@ -195,6 +206,11 @@ public final class TextsTest {
     scriptFault("pages 3", 0);
     scriptFault("twice 0", 0);
     scriptFault("slot", 0);
+    scriptFault("xlots", 0);
+    scriptFault("slotsz", 0);
+    scriptFault(" ".repeat(315) + "slots", N);
+    scriptFault(" ".repeat(316) + "slot", 316);
+    scriptFault("map 0,0," + "0".repeat(312), N);
     scriptFault("creates 1", 0);
     scriptFault("slots;create 1;create 1", N);
     scriptFault(TWELVE, N);
@@ -286,6 +302,41 @@ public final class TextsTest {
     check.is("the SCRIPT is the same", x.perform(0), 1);
     check.is("SERIALS begin again", Check.room(x, 0, 0), 1);
     check.is("hold is the one without", x.rule(2), 2);
+  }
+
+  private static void promise5NothingOfAnother() {
+    ClosedRooms x = Check.houseWithCopy();
+    x.tell(0, 5);
+    x.enter(0, 0, 0);
+    x.touch(0, 2, 0);
+    x.track(0);
+    x.create(2);
+    x.add(1, 0, 1, 1, 1);
+    x.slots();
+    x.block(5);
+    x.track(1);
+    x.evict(5, 6, 0);
+    x.evict(3, 6, 1);
+    Check.text(x, 0, "cores 3");
+    for (int core = 0; core < 3; core++) {
+      check.is("REGISTER", x.core(core, 0), 0);
+      for (int what = 1; what < 4; what++) check.is("outside", x.core(core, what), N);
+      check.is("SEES nothing", x.core(core, 4), 0);
+      check.is("SEES nothing", x.seen(core, 0, 0), N);
+    }
+    x.create(3);
+    x.create(3);
+    for (int room = 0; room < 2; room++) {
+      int[] due = {room + 1, 3, 1, 10, 0, 0, 0, 0, 0};
+      for (int what = 0; what < 9; what++) check.is("a new ROOM", Check.room(x, room, what), due[what]);
+      for (int i = 0; i < 3; i++) check.is("its MAP", x.mapped(room, i), N);
+    }
+    for (int page = 2; page < 8; page++) {
+      check.is("slots", x.slots(), page);
+      for (int slot = 0; slot < 4; slot++) check.is("empty", x.version(page, slot), 0);
+    }
+    check.is("the first VERSION", x.evict(0, 2, 0), 0);
+    check.is("it is 1", x.copyOf(0, 4), 1);
   }
 
   private static void promise5TextOfScripts() {

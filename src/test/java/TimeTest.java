@@ -7,6 +7,9 @@ public final class TimeTest {
     promise37Undo();
     promise37Forty();
     promise37EachAct();
+    promise37WhatIsNotSeen();
+    promise37WhatCoresSee();
+    promise37SinceWhen();
     promise52And53Image();
     promise53Back();
     check.finish();
@@ -96,6 +99,82 @@ public final class TimeTest {
       case 18: return x.map(0, 3, 9);
       default: return x.remove(3);
     }
+  }
+
+  /** VALUES, and since when a page is BLOCKED, are as they were, too. */
+  private static void promise37WhatIsNotSeen() {
+    ClosedRooms x = Check.house();
+    x.tell(0, 333);
+    x.enter(0, 0, 0);
+    x.touch(0, 2, 0);
+    x.touch(0, 1, 0);
+    x.leave(0);
+    x.tell(0, 333);
+    x.enter(0, 0, 0);
+    x.touch(0, 1, 1);
+    x.undo();
+    check.is("VALUE", x.touch(0, 1, 0), 50);
+    x.touch(0, 2, 0);
+    x.leave(0);
+    x.undo();
+    check.is("SEEN", x.seen(0, 0, 0) * 1000 + x.seen(0, 0, 1) * 100 + x.seen(0, 1, 0) * 10 + x.seen(0, 1, 1), 1324);
+    x.leave(0);
+    x.track(0);
+    x.block(3);
+    x.undo();
+    x.undo();
+    x.block(3);
+    x.track(0);
+    x.track(0);
+    x.undo();
+    check.is("BLOCKED in EPOCH 0", x.evict(3, 1, 0), 0);
+    x.undo();
+    x.undo();
+    x.undo();
+    x.track(0);
+    x.block(3);
+    check.is("BLOCKED in EPOCH 1", x.evict(3, 1, 0), N);
+    x.create(1);
+    x.evict(5, 1, 0);
+    x.undo();
+    check.is("not AWAY", Check.room(x, 1, 5), 0);
+    x.evict(5, 1, 0);
+    x.drop(0);
+    x.undo();
+    x.undo();
+    x.undo();
+    check.is("no ROOM 1", Check.room(x, 1, 5), Check.NO_SUCH_ELEMENT);
+    check.is("undo", x.undo() >= 0, true);
+    check.is("not BLOCKED", x.page(3, 4), 0);
+  }
+
+  private static void promise37WhatCoresSee() {
+    ClosedRooms x = Check.machine("pages 8;hold 2");
+    x.create(4);
+    x.add(0, 0, 1, 1, 0);
+    for (int i = 1; i < 4; i++) x.add(0, i, 0, 1, i);
+    x.seal(0, Check.room(x, 0, 3));
+    x.enter(0, 0, 0);
+    x.touch(0, 3, 0);
+    x.touch(0, 1, 0);
+    x.touch(0, 2, 0);
+    x.undo();
+    check.is("ADDRESSES", x.seen(0, 0, 0) * 10 + x.seen(0, 1, 0), 31);
+    check.is("PAGES", x.seen(0, 0, 1) * 10 + x.seen(0, 1, 1), 42);
+  }
+
+  private static void promise37SinceWhen() {
+    ClosedRooms x = Check.house();
+    x.track(0);
+    x.block(3);
+    x.enter(0, 0, 0);
+    x.track(0);
+    check.is("a CORE is inside since then", x.evict(3, 1, 0), N);
+    x.leave(0);
+    check.is("it has left", x.evict(3, 1, 0), 0);
+    x.undo();
+    x.undo();
+    check.is("it is inside again", x.evict(3, 1, 0), N);
   }
 
   private static void promise52And53Image() {
