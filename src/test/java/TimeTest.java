@@ -6,7 +6,6 @@ public final class TimeTest {
   public static void main(String[] args) {
     promise37Undo();
     promise37Forty();
-    promise37EachAct();
     promise37WhatIsNotSeen();
     promise37WhatCoresSee();
     promise37SinceWhen();
@@ -56,49 +55,6 @@ public final class TimeTest {
     for (int i = 19; i >= 0; i--) check.is("undo", x.undo(), i);
     check.is("REGISTER", x.core(0, 0), 60);
     check.is("STATUS", Check.status(x), 11100);
-  }
-
-  private static void promise37EachAct() {
-    ClosedRooms x = Check.machine("pages 10;cores 3;hold 1");
-    String[] seen = new String[21];
-    int acts = 0;
-    for (int i = 0; i < 20; i++) {
-      seen[i] = Dump.of(x);
-      check.is("act " + i, act(x, i) > -2, true);
-      check.is("it changed something", Dump.of(x).equals(seen[i]), false);
-      acts++;
-      check.is("count(4)", x.count(4), acts);
-    }
-    for (int i = 19; i >= 0; i--) {
-      check.is("undo of " + i, x.undo(), i);
-      check.is("all is as it was ahead of " + i, Dump.of(x).equals(seen[i]), true);
-    }
-  }
-
-  /** One of each sort of ACT, in an order in which each can be. */
-  private static int act(ClosedRooms x, int i) {
-    switch (i) {
-      case 0: return x.create(4);
-      case 1: return x.slots();
-      case 2: return x.add(0, 0, 1, 1, 9);
-      case 3: return x.add(0, 1, 0, 3, 8);
-      case 4: return x.extend(0, 0);
-      case 5: return x.seal(0, Check.room(x, 0, 3));
-      case 6: return x.tell(1, 66);
-      case 7: return x.enter(1, 0, 0);
-      case 8: return x.touch(1, 1, 1);
-      case 9: return x.trap(1);
-      case 10: return x.resume(2, 0, 0);
-      case 11: return x.leave(2);
-      case 12: return x.block(3);
-      case 13: return x.track(0);
-      case 14: return x.evict(3, 1, 1);
-      case 15: return x.twice(0);
-      case 16: return x.change(1, 5);
-      case 17: return x.load(0, 1, 1);
-      case 18: return x.map(0, 3, 9);
-      default: return x.remove(3);
-    }
   }
 
   /** VALUES, and since when a page is BLOCKED, are as they were, too. */
