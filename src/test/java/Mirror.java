@@ -9,7 +9,7 @@ import java.util.TreeMap;
  * The ACTS told once more, from the document and in another way: pages know what they are by objects and maps, and an
  * UNDO plays the whole story again from its beginning. Slow, for tests only.
  */
-final class Mirror {
+final class Mirror implements WalksTest.Guide {
   /** A page of a room, wherever it is. */
   private static final class Leaf {
     final House house;
@@ -471,6 +471,16 @@ final class Mirror {
 
   // ---- what is asked apart ----
 
+  @Override
+  public int measure(int room) {
+    return house(room) == null ? 0 : house(room).measure;
+  }
+
+  @Override
+  public boolean isSlots(int page) {
+    return drawers(page) != null;
+  }
+
   int old() {
     int bits = 0;
     for (int i = 0; i < 12; i++) {
@@ -518,7 +528,8 @@ final class Mirror {
     return bits;
   }
 
-  int victim() {
+  @Override
+  public int victim() {
     Map<String, Integer> best = new LinkedHashMap<>();
     for (int p = pages - 1; p >= 0; p--) {
       if (canGo(frames[p])) best.put(frames[p] instanceof House ? "root" : leaf(p).entry ? "entry" : "plain", p);
@@ -569,8 +580,9 @@ final class Mirror {
     pair(mine, its, victim(), x.victim());
     pair(mine, its, undoable, x.count(4));
     pair(mine, its, Math.min(60, log.size()), x.count(3));
-    for (int i = 0; i < 60 && i < log.size(); i++) {
-      for (int what = 0; what < 3; what++) pair(mine, its, log.get(log.size() - 1 - i)[what], x.log(i, what));
+    int length = Math.min(60, log.size());
+    for (int i = 0; i < length; i++) {
+      for (int what = 0; (i < 3 || i == length - 1) && what < 3; what++) pair(mine, its, log.get(log.size() - 1 - i)[what], x.log(i, what));
     }
     for (int i = 0; i < 5; i++) pair(mine, its, status[i], x.status(i));
     return mine.toString().equals(its.toString()) ? null : "\n due " + mine + "\n got " + its;

@@ -1,13 +1,57 @@
-/** Long walks of odd calls: each answers as the mirror does, what is refused changes nothing, what is UNDONE is as it was. */
+import java.util.ArrayList;
+import java.util.Arrays;
+import java.util.List;
+
+/**
+ * Long walks of odd calls, each on objects that are asked no more than 512 times: ACTS answer as the mirror's and leave
+ * all as it is there; SCRIPTS do what the same ACTS do; what is refused, and what is only looked at, changes nothing.
+ */
 public final class WalksTest {
+  /** What a walk looks at to choose an ACT that often can be. */
+  interface Guide {
+    int measure(int room);
+
+    int victim();
+
+    boolean isSlots(int page);
+  }
+
+  private static final class Eye implements Guide {
+    private final ClosedRooms x;
+
+    Eye(ClosedRooms x) {
+      this.x = x;
+    }
+
+    @Override
+    public int measure(int room) {
+      return Check.room(x, room, 3);
+    }
+
+    @Override
+    public int victim() {
+      return x.victim();
+    }
+
+    @Override
+    public boolean isSlots(int page) {
+      return x.page(page, 0) == 4;
+    }
+  }
+
   private static final Check check = new Check("WalksTest");
   private static final int[] FAR = {Integer.MIN_VALUE, Integer.MAX_VALUE, -1, -2, 1000, -1000000, 1 << 30, 12, 999, 1 << 31 | 3};
+  private static final int[] OFTEN = {0, 1, 2, 2, 2, 2, 3, 4, 5, 5, 5, 6, 7, 8, 8, 9, 9, 9, 9, 10, 10, 11, 11, 12, 12, 12, 13, 13, 13, 14,
+      15, 16, 17, 18, 19};
+  private static final String[] WORDS = {"create", "slots", "add", "extend", "seal", "enter", "leave", "trap", "resume", "touch",
+      "block", "track", "evict", "load", "remove", "map"};
+  private static final int[] NUMBERS = {1, 0, 5, 2, 1, 3, 1, 1, 3, 3, 1, 1, 3, 3, 1, 3};
   private static long seed = 20261118;
 
   public static void main(String[] args) {
-    for (int walk = 0; walk < 400; walk++) mirroredWalk(walk);
-    for (int walk = 0; walk < 60; walk++) scriptedWalk(walk);
-    for (int walk = 0; walk < 300; walk++) wildWalk(walk);
+    for (int walk = 0; walk < 1500; walk++) mirroredWalk(walk);
+    for (int walk = 0; walk < 1000; walk++) scriptedWalk(walk);
+    for (int walk = 0; walk < 1500; walk++) wildWalk(walk);
     check.finish();
   }
 
@@ -21,10 +65,9 @@ public final class WalksTest {
   }
 
   /** An ACT that often can be: sort and five numbers. */
-  private static int[] nextAct(ClosedRooms x, int pages, int cores) {
-    int[] often = {0, 1, 2, 2, 2, 2, 3, 4, 5, 5, 5, 6, 7, 8, 8, 9, 9, 9, 9, 10, 10, 11, 11, 12, 12, 12, 13, 13, 13, 14, 15, 16, 17, 18, 19};
+  private static int[] nextAct(Guide guide, int pages, int cores) {
     int[] t = new int[6];
-    t[0] = often[any(often.length)];
+    t[0] = OFTEN[any(OFTEN.length)];
     int room = some(any(3) == 0 ? 4 : 2);
     int page = some(pages);
     int core = some(cores);
@@ -33,7 +76,7 @@ public final class WalksTest {
       case 1: return t;
       case 2: return fill(t, room, some(4), some(2), 1 + some(7), some(1000));
       case 3: return fill(t, room, some(4));
-      case 4: return fill(t, room, any(5) == 0 ? 9 : Check.room(x, room, 3));
+      case 4: return fill(t, room, any(5) == 0 ? 9 : guide.measure(room));
       case 5:
       case 8: return fill(t, core, room, some(3));
       case 6:
@@ -41,8 +84,8 @@ public final class WalksTest {
       case 9: return fill(t, core, some(4), some(3));
       case 10: return fill(t, page);
       case 11: return fill(t, room);
-      case 12: return fill(t, any(3) == 0 ? page : x.victim(), slotsOf(x, pages), some(4));
-      case 13: return fill(t, some(4), slotsOf(x, pages), some(4));
+      case 12: return fill(t, any(3) == 0 ? page : guide.victim(), slotsOf(guide, pages), some(4));
+      case 13: return fill(t, some(4), slotsOf(guide, pages), some(4));
       case 14: return fill(t, page);
       case 15: return fill(t, room, some(4), some(pages + 1) - 1);
       case 17: return fill(t, some(6), some(1000));
@@ -51,10 +94,10 @@ public final class WalksTest {
     }
   }
 
-  private static int slotsOf(ClosedRooms x, int pages) {
-    for (int i = 0; i < pages; i++) {
+  private static int slotsOf(Guide guide, int pages) {
+    for (int i = 0; i < 4; i++) {
       int p = any(pages);
-      if (x.page(p, 0) == 4) return p;
+      if (guide.isSlots(p)) return p;
     }
     return some(pages);
   }
@@ -89,77 +132,68 @@ public final class WalksTest {
     }
   }
 
-  private static String machineOf(int pages, int cores, int hold) {
-    return "pages " + pages + ";cores " + cores + ";hold " + hold;
-  }
-
+  /** Some ACTS and UNDOS, each answered as the mirror's; then all that can be seen is as it is there. */
   private static void mirroredWalk(int walk) {
     int pages = walk % 4 == 0 ? 3 + any(8) : 10;
     int cores = 1 + any(3);
     int hold = 1 + any(3);
-    ClosedRooms x = Check.machine(machineOf(pages, cores, hold));
+    ClosedRooms x = Check.machine("pages " + pages + ";cores " + cores + ";hold " + hold);
     Mirror mirror = new Mirror(pages, cores, hold);
-    for (int i = 0; i < 200; i++) {
-      String told;
-      int got;
-      int due;
-      if (any(20) == 0) {
-        told = "undo";
-        got = x.undo();
-        due = mirror.undo();
-      } else {
-        int[] t = nextAct(x, pages, cores);
-        told = java.util.Arrays.toString(t);
-        got = call(x, t);
-        due = mirror.act(t);
-      }
-      String difference = mirror.difference(x);
-      check.is("walk " + walk + ", call " + i + " " + told, got, due);
-      if (difference != null) check.is("walk " + walk + ", call " + i + " " + told + difference, 1, 0);
-      if (got != due || difference != null) return;
+    int calls = 1 + any(130);
+    for (int i = 0; i < calls; i++) {
+      if (!sameAnswer(x, mirror, any(20) == 0 ? null : nextAct(mirror, pages, cores), "walk " + walk + ", call " + i)) return;
     }
+    for (int i = any(4) == 0 ? any(50) : 0; i > 0; i--) {
+      if (!sameAnswer(x, mirror, null, "walk " + walk + ", UNDO at its end")) return;
+    }
+    String difference = mirror.difference(x);
+    if (difference != null) check.is("walk " + walk + " behind " + calls + " calls" + difference, 1, 0);
   }
 
-  private static final String[] WORDS = {"create", "slots", "add", "extend", "seal", "enter", "leave", "trap", "resume", "touch",
-      "block", "track", "evict", "load", "remove", "map"};
-  private static final int[] NUMBERS = {1, 0, 5, 2, 1, 3, 1, 1, 3, 3, 1, 1, 3, 3, 1, 3};
+  private static boolean sameAnswer(ClosedRooms x, Mirror mirror, int[] t, String at) {
+    int got = t == null ? x.undo() : call(x, t);
+    int due = t == null ? mirror.undo() : mirror.act(t);
+    check.is(at + (t == null ? " UNDO" : " " + Arrays.toString(t)), got, due);
+    return got == due;
+  }
 
-  /** SCRIPTS of STEPS as they come: RUN tells what DO does, and DO does what the same ACTS one by one do. */
+  /** A SCRIPT of STEPS that often can be: RUN tells, and DO does, what the same ACTS one by one do in the mirror. */
   private static void scriptedWalk(int walk) {
     ClosedRooms x = Check.machine("pages 10;cores 3");
-    ClosedRooms y = Check.machine("pages 10;cores 3");
-    for (int script = 0; script < 4; script++) {
-      int[][] steps = new int[1 + any(12)][];
-      StringBuilder text = new StringBuilder();
-      for (int i = 0; i < steps.length; i++) {
-        steps[i] = nextStep(x);
-        text.append(i == 0 ? "" : ";").append(WORDS[steps[i][0]]);
-        for (int k = 1; k <= NUMBERS[steps[i][0]]; k++) text.append(k == 1 ? " " : ",").append(steps[i][k]);
-      }
-      check.is("walk " + walk + " " + text, Check.text(x, 1, text.toString()), script);
-      for (int again = 0; again < 6; again++) {
-        int first = x.run(script, 0);
-        int by = x.run(script, 1);
-        int was = Check.status(x);
-        int done = x.perform(script);
-        check.is("walk " + walk + " RUN of " + text, first, done == steps.length ? -1 : done);
-        check.is("walk " + walk + " no STATUS " + text, Check.status(x), was);
-        int failed = -1;
-        for (int i = 0; i < steps.length && failed < 0; i++) {
-          int[] t = steps[i].clone();
-          if (t[0] == 4) t[2] = Check.room(y, t[1], 3);
-          failed = statusOf(y, t);
-        }
-        check.is("walk " + walk + " by which " + text, by, failed);
-        check.is("walk " + walk + " as one by one " + text, Dump.of(x).equals(Dump.of(y)), true);
-        check.is("walk " + walk + " count(4) " + text, x.count(4), y.count(4));
-      }
+    Mirror mirror = new Mirror(10, 3, 2);
+    for (int i = any(60); i > 0; i--) {
+      if (!sameAnswer(x, mirror, nextAct(mirror, 10, 3), "scripted walk " + walk)) return;
     }
+    List<String> steps = new ArrayList<>();
+    int done = 0;
+    int failed = -1;
+    for (int i = 1 + any(12); i > 0; i--) {
+      int[] t = nextStep(mirror);
+      steps.add(told(t));
+      if (failed >= 0) continue;
+      if (t[0] == 4) t[2] = mirror.measure(t[1]);
+      failed = statusOf(mirror, t);
+      if (failed < 0) done++;
+    }
+    String text = String.join(";", steps);
+    String at = "scripted walk " + walk + " " + text;
+    check.is(at, Check.text(x, 1, text), 0);
+    check.is(at + " RUN, how many", x.run(0, 0), failed < 0 ? -1 : done);
+    check.is(at + " RUN, by which", x.run(0, 1), failed);
+    check.is(at + " DO", x.perform(0), done);
+    String difference = mirror.difference(x);
+    if (difference != null) check.is(at + difference, 1, 0);
   }
 
-  private static int[] nextStep(ClosedRooms x) {
+  private static String told(int[] t) {
+    StringBuilder text = new StringBuilder(WORDS[t[0]]);
+    for (int k = 1; k <= NUMBERS[t[0]]; k++) text.append(k == 1 ? " " : ",").append(t[k]);
+    return text.toString();
+  }
+
+  private static int[] nextStep(Guide guide) {
     for (int i = 0; i < 100; i++) {
-      int[] t = nextAct(x, 10, 3);
+      int[] t = nextAct(guide, 10, 3);
       boolean fits = t[0] < 16;
       for (int k = 1; k < 6; k++) fits = fits && (t[0] == 4 && k == 2 || t[k] >= 0 && t[k] <= 999);
       if (fits) return t;
@@ -167,45 +201,58 @@ public final class WalksTest {
     return new int[] {1, 0, 0, 0, 0, 0};
   }
 
-  /** The STATUS that the call adds to, or -1. */
-  private static int statusOf(ClosedRooms x, int[] t) {
-    int[] before = new int[5];
-    for (int i = 0; i < 5; i++) before[i] = x.status(i);
-    call(x, t);
+  /** By which STATUS the mirror refuses it (a STEP is counted by none), or -1. */
+  private static int statusOf(Mirror mirror, int[] t) {
+    int[] before = mirror.status.clone();
+    mirror.act(t);
     for (int i = 0; i < 5; i++) {
-      if (x.status(i) != before[i]) return i;
+      if (mirror.status[i] == before[i]) continue;
+      mirror.status[i]--;
+      return i;
     }
     return -1;
   }
 
-  /** Any calls at all: none throws, what is no ACT changes nothing, what is refused changes nothing but STATUS. */
+  /** Any calls at all: what is refused changes nothing but STATUS, what is UNDONE is as it was, looks change nothing. */
   private static void wildWalk(int walk) {
-    ClosedRooms x = walk % 10 == 0 ? new ClosedRooms() : Check.house();
-    for (int i = 0; i < 150; i++) {
-      String before = Dump.of(x);
-      String rest = Dump.rest(x);
-      int was = Check.status(x);
-      int[] t = nextAct(x, 10, 3);
-      for (int k = 1; k < 6; k++) t[k] = any(6) == 0 ? FAR[any(FAR.length)] : t[k];
-      int undoable = x.count(4);
-      call(x, t);
-      String at = "wild walk " + walk + ", call " + i + " " + java.util.Arrays.toString(t);
-      if (Check.status(x) != was) {
-        check.is(at + " refused, all as it was", Dump.of(x).equals(before) && Dump.rest(x).equals(rest), true);
-      } else {
-        check.is(at + " done, the LOG tells it", x.log(0, 0), t[0]);
-        check.is(at + " done, it can be UNDONE", x.count(4), Math.min(40, undoable + 1));
-        if (any(4) == 0) {
-          x.undo();
-          check.is(at + " UNDONE, all as it was", Dump.of(x).equals(before), true);
-          call(x, t);
-        }
-      }
-      if (any(30) == 0) texts(x);
-      if (any(30) == 0) x.image();
-      if (any(50) == 0) x.back();
-      looks(x, at);
+    long from = seed;
+    ClosedRooms first = wild(from, walk);
+    int[] t = nextAct(new Eye(first), 8, 3);
+    for (int k = 1; k < 6; k++) t[k] = any(6) == 0 ? FAR[any(FAR.length)] : t[k];
+    long then = seed;
+    String before = Dump.whole(wild(from, walk));
+    String at = "wild walk " + walk + " " + Arrays.toString(t);
+    ClosedRooms x = wild(from, walk);
+    int undoable = x.count(4);
+    int was = Check.status(x);
+    call(x, t);
+    if (Check.status(x) == was) {
+      check.is(at + " done, the LOG tells it", x.log(0, 0), t[0]);
+      check.is(at + " done, it can be UNDONE", x.count(4), Math.min(40, undoable + 1));
+      x.undo();
     }
+    check.is(at + " refused or UNDONE, all as it was", Dump.whole(x).equals(before), true);
+    ClosedRooms y = wild(from, walk);
+    seed = then;
+    looks(y);
+    check.is("wild walk " + walk + " looks change no STATUS", Check.status(y), was);
+    check.is("wild walk " + walk + " looks change nothing", Dump.whole(y).equals(before), true);
+  }
+
+  /** An object behind wild calls, the same ones for the same numbers. */
+  private static ClosedRooms wild(long from, int walk) {
+    seed = from;
+    ClosedRooms x = walk % 20 == 0 ? new ClosedRooms() : Check.house();
+    for (int i = any(35); i > 0; i--) {
+      int[] t = nextAct(new Eye(x), 8, 3);
+      for (int k = 1; k < 6; k++) t[k] = any(30) == 0 ? FAR[any(FAR.length)] : t[k];
+      call(x, t);
+      if (any(20) == 0) texts(x);
+      if (any(20) == 0) x.image();
+      if (any(20) == 0) x.back();
+      if (any(10) == 0) x.undo();
+    }
+    return x;
   }
 
   private static void texts(ClosedRooms x) {
@@ -215,13 +262,11 @@ public final class WalksTest {
     Check.put(x, text.toString());
     if (any(2) == 0) x.end(some(320));
     if (any(4) == 0) Check.text(x, 1, "create 1;slots");
-    if (any(20) == 0) Check.text(x, 0, "pages 9");
+    if (any(30) == 0) Check.text(x, 0, "pages 9");
     x.text(some(3));
   }
 
-  private static void looks(ClosedRooms x, String at) {
-    String before = Dump.of(x);
-    int was = Check.status(x);
+  private static void looks(ClosedRooms x) {
     int a = some(12);
     int b = some(12);
     x.fault(a);
@@ -237,17 +282,19 @@ public final class WalksTest {
     x.proves(a, b, some(1000), some(5));
     x.status(a);
     x.log(a, b);
+    x.old();
     x.twins(a);
     x.waits(a);
     x.leaks(a);
     x.lies(a);
+    x.victim();
     x.paper(a);
     x.alike(a, b);
     x.spell(a, b);
     x.step(a, b, some(6));
     x.run(a, b);
+    x.run(some(4), some(2));
     x.all(a);
     x.count(a);
-    check.is(at + " looks change nothing", Dump.of(x).equals(before) && Check.status(x) == was, true);
   }
 }
