@@ -25,11 +25,13 @@ public final class EdgesOfActsTest {
     promise14CreateTakes();
     promise14CreateRefused();
     promise14CreateOfSeveralTheFirst();
+    promise14NothingOfAnother();
     promise15Slots();
     promise16AddTakes();
     promise16AddOutOfBounds();
     promise16AddRefused();
     promise16AddOfSeveralTheFirst();
+    promise16AddNothingOfAnother();
     promise16MeasureGoesRound();
     promise17ExtendTakes();
     promise17ExtendRefused();
@@ -96,6 +98,26 @@ public final class EdgesOfActsTest {
     e.refused("no MACHINE, SIZE 9", NEW, x -> x.create(9), N, 0);
     e.refused("SIZE 0, four ROOMS", FOUR_ROOMS, x -> x.create(0), N, 1);
     e.refused("SIZE 9, no FREE PAGE", FULL, x -> x.create(9), N, 1);
+  }
+
+  /** Where another ROOM, another page was, nothing of it is left. */
+  private static void promise14NothingOfAnother() {
+    Edge e = new Edge(check, "14 (create)");
+    Edge.Make gone = Edge.after(HOUSE, x -> x.block(3), Edge.times(3, x -> x.track(0)), x -> x.evict(3, 1, 0), x -> x.remove(2),
+        x -> x.remove(4), x -> x.remove(0));
+    ClosedRooms x = Edge.after(gone, y -> y.create(4)).make();
+    int[] due = {2, 4, 1, 11, 0, 0, 0, 0, 0};
+    for (int what = 0; what < 9; what++) e.is("a ROOM where another was, what " + what, Check.room(x, 0, what), due[what]);
+    for (int i = 0; i < 4; i++) e.is("its MAP tells none", x.mapped(0, i), N);
+    x = Edge.after(HOUSE, y -> y.block(3), y -> y.remove(3), y -> y.create(1)).make();
+    int[] root = {1, 1, N, 0, 0, N};
+    for (int what = 0; what < 6; what++) e.is("a ROOT where a PLAIN page was, BLOCKED, what " + what, x.page(3, what), root[what]);
+    x.evict(3, 1, 0);
+    e.is("its VALUE is 0", x.change(0, 9), 0);
+    x = Edge.after(HASTE, y -> y.block(2), y -> y.remove(2), y -> y.slots()).make();
+    int[] slots = {4, N, N, N, N, N};
+    for (int what = 0; what < 6; what++) e.is("SLOTS where an ENTRY was, what " + what, x.page(2, what), slots[what]);
+    e.is("no PAGE is BLOCKED", x.all(7), 0);
   }
 
   private static void promise15Slots() {
@@ -191,6 +213,20 @@ public final class EdgesOfActsTest {
     e.refused("the ADDRESS has a page, no FREE PAGE", Edge.after(SITE, Edge.times(3, x -> x.slots())), x -> x.add(0, 1, 0, 1, 1), N, 2);
   }
 
+  private static void promise16AddNothingOfAnother() {
+    Edge e = new Edge(check, "16 (add)");
+    Edge.Make site = Edge.after(HASTE, x -> x.create(2), x -> x.block(2), x -> x.remove(2));
+    ClosedRooms x = Edge.after(site, y -> y.add(1, 1, 1, 2, 0)).make();
+    int[] entry = {3, 1, 1, 2, 0, 0};
+    for (int what = 0; what < 6; what++) e.is("an ENTRY where one left in haste was, BLOCKED, what " + what, x.page(2, what), entry[what]);
+    x = Edge.after(site, y -> y.add(1, 0, 0, 4, 6)).make();
+    int[] plain = {2, 1, 0, 4, 0, N};
+    for (int what = 0; what < 6; what++) e.is("a PLAIN page where it was, what " + what, x.page(2, what), plain[what]);
+    x.block(2);
+    e.refused("BLOCKED in the EPOCH of its own ROOM", Edge.after(HOUSE, y -> y.block(3), y -> y.remove(3), y -> y.create(2),
+        y -> y.track(1), y -> y.slots(), y -> y.add(1, 0, 0, 1, 1), y -> y.block(6)), y -> y.evict(6, 1, 0), N, 2);
+  }
+
   /** 31 times itself .. passes the end of an int. */
   private static void promise16MeasureGoesRound() {
     Edge e = new Edge(check, "16 (add)");
@@ -214,6 +250,11 @@ public final class EdgesOfActsTest {
     e.done("ADDRESS 2", SITE, x -> x.extend(0, 2), 31 * measure + 1060, 3, 0);
     e.done("BLOCKED", Edge.after(SITE, x -> x.block(4)), x -> x.extend(0, 2), 31 * measure + 1060, 3, 0);
     e.done("whatever MAP tells", Edge.after(SITE, x -> x.map(0, 2, 3)), x -> x.extend(0, 2), 31 * measure + 1060, 3, 0);
+    Edge.Make first = Edge.after(TEN, x -> x.slots(), x -> x.create(2), x -> x.remove(0), x -> x.add(0, 1, 0, 1, 4));
+    e.done("PAGE 0, the first", first, x -> x.extend(0, 1), 31 * (31 * 9 + 65) + 1004, 3, 0);
+    Edge.Make tenth = Edge.after(TEN, x -> x.create(2), Edge.times(8, x -> x.slots()), x -> x.add(0, 1, 0, 1, 4));
+    e.done("PAGE 9, the last", tenth, x -> x.extend(0, 1), 31 * (31 * 9 + 65) + 1004, 3, 0);
+    e.done("of its own ROOM", Edge.after(SITE, x -> x.create(3), x -> x.add(1, 1, 0, 1, 7)), x -> x.extend(1, 1), 31 * (31 * 10 + 65) + 1007, 3, 1);
     e.done("twice", Edge.after(SITE, x -> x.extend(0, 0)), x -> x.extend(0, 0), 31 * (31 * measure + 1011) + 1011, 3, 0);
     Edge.Make eight = Edge.after(TEN, x -> x.create(8), x -> x.add(0, 7, 0, 1, 0), x -> x.add(0, 0, 0, 1, 999));
     int of = Check.room(eight.make(), 0, 3);
@@ -544,6 +585,8 @@ public final class EdgesOfActsTest {
     e.refused("MAP tells a page of another ROOM", Edge.after(TWO_ROOMS, x -> x.enter(0, 0, 0), x -> x.map(0, 1, 7)), x -> x.touch(0, 1, 0), N, 4);
     e.refused("its page is out", Edge.after(Edge.WITH_COPY, x -> x.enter(0, 0, 0)), x -> x.touch(0, 1, 0), N, 4);
     e.refused("BLOCKED", Edge.after(INSIDE, x -> x.block(3)), x -> x.touch(0, 1, 0), N, 4);
+    e.refused("BLOCKED, and SEEN no more", Edge.after(INSIDE, x -> x.touch(0, 1, 0), x -> x.touch(0, 2, 0), x -> x.block(3), x -> x.leave(0),
+        x -> x.enter(0, 0, 0)), x -> x.touch(0, 1, 0), N, 4);
     e.refused("no PLAIN one: an ENTRY", INSIDE, x -> x.touch(0, 0, 2), N, 4);
     e.refused("not that one of its RIGHTS, to go", INSIDE, x -> x.touch(0, 1, 2), N, 4);
     e.refused("not that one of its RIGHTS, though SEEN", Edge.after(INSIDE, x -> x.touch(0, 1, 0)), x -> x.touch(0, 1, 2), N, 4);
@@ -579,9 +622,9 @@ public final class EdgesOfActsTest {
       e.done("one more", make, x -> x.touch(0, 5, 0), 5, 9, 0);
       ClosedRooms more = Edge.after(make, x -> x.touch(0, 5, 0)).make();
       e.is("as many as hold still", more.core(0, 4), hold);
-      e.is("the one seen longest goes", more.seen(0, 0, 0), hold == 1 ? 5 : 2);
+      for (int i = 0; i < hold - 1; i++) e.is("the one seen longest goes, " + i, more.seen(0, i, 0), i + 2);
       e.is("the new one is the last", more.seen(0, hold - 1, 0), 5);
-      e.is("with its PAGE", more.seen(0, hold - 1, 1), 6);
+      for (int i = 0; i < hold; i++) e.is("each with its PAGE", more.seen(0, i, 1), more.seen(0, i, 0) + 1);
       e.is("the one that went is asked of anew", Edge.after(make, x -> x.touch(0, 5, 0), x -> x.block(2)).make().touch(0, 1, 0), N);
       e.refused("what is FOUND pushes none out", make, x -> x.touch(0, 0, 0), N, 4);
       e.refused("what has not the RIGHT pushes none out", make, x -> x.touch(0, 5, 1), N, 4);

@@ -26,6 +26,7 @@ public final class EdgesOfLooksTest {
     promise36EachActByEachStatus();
     promise38Log();
     promise38SixtyAndOne();
+    promise38ComesBack();
     promise51All();
     promise51Bits();
     promise51MostPages();
@@ -252,6 +253,36 @@ public final class EdgesOfLooksTest {
     }
   }
 
+  /** The one that went as the 61st came is there again, sort, first number and answer, when that is UNDONE. */
+  private static void promise38ComesBack() {
+    Edge e = new Edge(check, "38 (log)");
+    for (int acts = 60; acts <= 64; acts++) {
+      ClosedRooms x = TEN.make();
+      for (int i = 0; i < acts; i++) actByTurns(x, i);
+      for (int i = 0; i < 3; i++) x.undo();
+      int length = Math.min(60, acts - 3);
+      e.is(acts + " ACTS, three UNDONE, how long", x.count(3), length);
+      ClosedRooms y = TEN.make();
+      for (int i = 0; i < acts - 3; i++) actByTurns(y, i);
+      for (int i = 0; i < length; i += i < 50 ? 10 : 1) {
+        for (int what = 0; what < 3; what++) e.is(acts + " ACTS, three UNDONE, " + i + ", " + what, x.log(i, what), y.log(i, what));
+      }
+    }
+  }
+
+  /** Seven ACTS by turns, each of which can be; so that the 61st is of another sort than the first. */
+  private static int actByTurns(ClosedRooms x, int i) {
+    switch (i % 7) {
+      case 0: return x.create(1 + i % 8);
+      case 1: return x.map(0, 0, 5);
+      case 2: return x.track(0);
+      case 3: return x.remove(0);
+      case 4: return x.slots();
+      case 5: return x.remove(0);
+      default: return x.tell(i % 3, i);
+    }
+  }
+
   private static void promise51All() {
     Edge e = new Edge(check, "51 (all)");
     whats(e, "nothing at all", TEN, (x, what) -> x.all(what), H, 1023, 0, 0, 0, 0, 0, 0, 0, N);
@@ -275,6 +306,11 @@ public final class EdgesOfLooksTest {
     e.same("the last one has left", Edge.after(hall, x -> x.leave(2)), x -> x.all(2), 3);
     e.same("the first one has left in haste", Edge.after(hall, x -> x.trap(0)), x -> x.all(2), 6);
     e.same("BLOCKED PAGES, all pages of ADDRESSES", hall, x -> x.all(7), 510);
+    Edge.Make first = Edge.after(TEN, x -> x.slots(), x -> x.create(1), x -> x.remove(0), x -> x.add(0, 0, 0, 1, 1), x -> x.block(0));
+    e.same("PAGE 0 BLOCKED", first, x -> x.all(7), 1);
+    e.same("SLOTS in PAGE 0", Edge.after(TEN, x -> x.slots()), x -> x.all(6), 4);
+    Edge.Make tenth = Edge.after(TEN, x -> x.create(1), Edge.times(8, x -> x.slots()), x -> x.add(0, 0, 0, 1, 1), x -> x.block(9));
+    e.same("PAGE 9 BLOCKED", tenth, x -> x.all(7), 512);
     Edge.Make empty = Edge.after(hall, x -> { for (int i = 0; i < 3; i++) x.leave(i); return 0; }, x -> x.track(0));
     e.same("one is out", Edge.after(empty, x -> x.evict(8, 9, 2)), x -> x.all(7), 254);
     e.same("it came back, not BLOCKED", Edge.after(empty, x -> x.evict(8, 9, 2), x -> x.load(0, 9, 2)), x -> x.all(7), 254);

@@ -22,6 +22,7 @@ public final class EdgesOfSealsTest {
     promise24Block();
     promise25Track();
     promise26EvictTakes();
+    promise26EvictNothingOfAnother();
     promise26EvictOfRoots();
     promise26EvictByEpochs();
     promise26EvictRefused();
@@ -112,6 +113,23 @@ public final class EdgesOfSealsTest {
     x.drop(0);
     x.evict(4, 1, 0);
     e.is("VERSIONS go on, though a COPY was dropped", x.version(1, 0), 2);
+  }
+
+  /** The COPY is of this page alone, whatever lay in that place. */
+  private static void promise26EvictNothingOfAnother() {
+    Edge e = new Edge(check, "26 (evict)");
+    ClosedRooms x = Edge.after(WITH_COPY, y -> y.change(0, 5), y -> y.drop(0), y -> y.create(2), y -> y.evict(3, 1, 1)).make();
+    int[] root = {2, N, 1, 0, 2, 0};
+    for (int what = 0; what < 6; what++) e.is("where a changed one lay, what " + what, x.copyOf(0, what), root[what]);
+    e.is("it can be LOADED", x.load(0, 1, 1), 3);
+    Edge.Make haste = Edge.after(HOUSE, y -> y.tell(0, 8), y -> y.enter(0, 0, 0), y -> y.trap(0), y -> y.block(2), y -> y.block(4),
+        y -> y.track(0), y -> y.evict(2, 1, 0));
+    x = Edge.after(haste, y -> y.drop(0), y -> y.evict(4, 1, 1), y -> y.load(0, 1, 1)).make();
+    e.is("a PLAIN page where an ENTRY left in haste lay", x.page(2, 5), N);
+    x = Edge.after(HALL, y -> y.enter(0, 0, 0), y -> y.trap(0), y -> y.block(2), y -> y.block(3), y -> y.track(0), y -> y.evict(2, 1, 0),
+        y -> y.drop(0), y -> y.evict(3, 1, 1), y -> y.load(0, 1, 1)).make();
+    e.is("an idle ENTRY where one left in haste lay", x.page(2, 5), 0);
+    e.is("it is idle", x.enter(1, 0, 1), 2);
   }
 
   private static void promise26EvictOfRoots() {
@@ -211,6 +229,19 @@ public final class EdgesOfSealsTest {
     e.is("its ADDRESS is here", Check.room(x, 0, 7) * 10 + Check.room(x, 0, 8), 70);
     x.enter(0, 0, 0);
     e.is("VALUE as it was", x.touch(0, 1, 0), 50);
+    Edge.Make idle = Edge.after(HOUSE, y -> y.block(2), y -> y.track(0), y -> y.evict(2, 1, 0));
+    x = Edge.after(idle, y -> y.load(0, 1, 0)).make();
+    int[] entry = {3, 0, 0, 4, 0, 0};
+    for (int what = 0; what < 6; what++) e.is("an idle ENTRY as it was, what " + what, x.page(2, what), entry[what]);
+    e.is("by it one enters", x.enter(0, 0, 0), 2);
+    Edge.Make haste = Edge.after(HOUSE, y -> y.tell(0, 8), y -> y.enter(0, 0, 0), y -> y.trap(0), y -> y.block(2), y -> y.track(0),
+        y -> y.evict(2, 1, 0));
+    x = Edge.after(haste, y -> y.load(0, 1, 0)).make();
+    e.is("an ENTRY left in haste as it was", x.page(2, 5), 2);
+    e.is("with what it hid", x.resume(1, 0, 0), 8);
+    x = Edge.after(haste, y -> y.twice(0), y -> y.load(1, 1, 0)).make();
+    e.is("the double of one left in haste", x.page(2, 5), 2);
+    e.is("with what it hid", x.resume(1, 0, 0), 8);
     x = Edge.after(AWAY, y -> y.load(0, 1, 3)).make();
     int[] root = {1, 1, N, 0, 0, N};
     for (int what = 0; what < 6; what++) e.is("a ROOT as it was, what " + what, x.page(5, what), root[what]);

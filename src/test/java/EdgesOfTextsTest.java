@@ -22,6 +22,7 @@ public final class EdgesOfTextsTest {
     promise2FeedZeros();
     promise2FeedFull();
     promise3End();
+    promise3EndLeavesNothingBehind();
     promise4NoSuchSort();
     promise4Rules();
     promise4Numbers();
@@ -146,6 +147,23 @@ public final class EdgesOfTextsTest {
     x.end(5);
     Check.put(x, "6");
     e.is("first n bytes alone, fed again", x.text(0) * 100 + x.rule(3), 876);
+  }
+
+  /** What stood behind the first n bytes is read no more. */
+  private static void promise3EndLeavesNothingBehind() {
+    Edge e = new Edge(check, "3 (end)");
+    String[] texts = {"extend 1,2;slots", "key 7 ; hold 3", "add 1 , 22 , 3 , 4 , 5 ; leave 1 ", "pages 10"};
+    for (String text : texts) {
+      for (int n = 0; n <= text.length(); n++) {
+        ClosedRooms x = new ClosedRooms();
+        Check.put(x, text);
+        x.end(n);
+        for (int sort = 0; sort < 2; sort++) {
+          int due = Check.fault(new ClosedRooms(), sort, text.substring(0, n));
+          e.is("the first " + n + " bytes of '" + text + "' alone, sort " + sort, x.fault(sort), due);
+        }
+      }
+    }
   }
 
   private static void promise4NoSuchSort() {
@@ -416,6 +434,14 @@ public final class EdgesOfTextsTest {
     x = full.make();
     Check.text(x, 0, "pages 8;cores 3");
     e.is("nothing hidden stays", Dump.whole(x).equals(Dump.whole(Edge.script(Edge.machine("pages 8;cores 3"), "create 2", "slots;slots").make())), true);
+    x = Edge.after(full, z -> z.create(1), z -> z.evict(5, 1, 1), z -> z.slots(), z -> z.evict(3, 5, 2)).make();
+    Check.text(x, 0, "pages 8;cores 3");
+    ClosedRooms y = Edge.script(Edge.machine("pages 8;cores 3"), "create 2", "slots;slots").make();
+    for (ClosedRooms one : new ClosedRooms[] {x, y}) {
+      for (int i = 0; i < 6; i++) one.slots();
+      for (int i = 1; i <= 2; i++) one.create(i);
+    }
+    e.is("nothing hidden comes up as it is built anew", Dump.whole(x).equals(Dump.whole(y)), true);
     x = full.make();
     x.undo();
     x.undo();

@@ -16,6 +16,9 @@ public final class EdgesOfTimeTest {
   public static void main(String[] args) {
     promise37None();
     promise37FortyAndOne();
+    promise37RefusedOnesTakeNone();
+    promise37BlockedSince();
+    promise37HoldStays();
     promise37WhatIsUndone();
     promise37WhatIsNotUndone();
     promise49NoSuch();
@@ -24,6 +27,7 @@ public final class EdgesOfTimeTest {
     promise49And50HowMany();
     promise49RunChangesNothing();
     promise50StepsAreActs();
+    promise50NumbersOfSteps();
     promise50NoStatus();
     promise52Image();
     promise53Back();
@@ -74,6 +78,47 @@ public final class EdgesOfTimeTest {
     for (int i = 0; i < 40; i++) x.undo();
     e.is("40 are UNDONE", x.core(0, 0), 11);
     e.is("none more", x.undo(), N);
+  }
+
+  /** What is refused takes none of the forty, nor changes what they are UNDONE to. */
+  private static void promise37RefusedOnesTakeNone() {
+    Edge e = new Edge(check, "37 (undo)");
+    for (int refused = 0; refused <= 3; refused++) {
+      ClosedRooms x = TEN.make();
+      for (int i = 1; i <= 55; i++) x.tell(0, i);
+      for (int i = 0; i < refused; i++) x.create(9);
+      for (int i = 39; i >= 0; i--) e.is(refused + " refused, how many still can be", x.undo(), i);
+      e.is(refused + " refused, none more", x.undo(), N);
+      e.is(refused + " refused, REGISTER", x.core(0, 0), 15);
+    }
+  }
+
+  /** In which EPOCH a page was BLOCKED comes back, too. */
+  private static void promise37BlockedSince() {
+    Edge.Make blocked = Edge.after(HOUSE, x -> x.track(0), x -> x.block(3));
+    Edge.Make undone = Edge.after(blocked, x -> x.remove(3), x -> x.undo());
+    Edge.Make back = Edge.after(blocked, x -> x.image(), x -> x.remove(3), x -> x.back());
+    Edge e = new Edge(check, "37 (undo) and 53 (back)");
+    for (Edge.Make make : new Edge.Make[] {blocked, undone, back}) {
+      e.refused("BLOCKED in the EPOCH now", make, x -> x.evict(3, 1, 0), N, 2);
+      e.done("BLOCKED in the EPOCH ahead", Edge.after(make, x -> x.track(0)), x -> x.evict(3, 1, 0), 0, 12, 3);
+      stops("BLOCKED in the EPOCH now", make, "evict 3,1,0", 0, 2);
+      stops("BLOCKED in the EPOCH ahead", make, "track 0;evict 3,1,0", 2, N);
+    }
+  }
+
+  /** How many ADDRESSES a CORE SEES at most is as the MACHINE tells, behind UNDO and BACK and in RUN and DO, too. */
+  private static void promise37HoldStays() {
+    Edge.Make undone = Edge.after(HOUSE, x -> x.slots(), x -> x.undo());
+    Edge.Make back = Edge.after(HOUSE, x -> x.image(), x -> x.slots(), x -> x.back());
+    for (Edge.Make make : new Edge.Make[] {HOUSE, undone, back}) {
+      stops("both are SEEN", make, "enter 0,0,0;touch 0,1,0;touch 0,2,0;block 3;block 4;touch 0,1,0;touch 0,2,0", 7, N);
+      ClosedRooms x = Edge.after(make, y -> y.enter(0, 0, 0), y -> y.touch(0, 1, 0), y -> y.touch(0, 2, 0)).make();
+      check.is("promise 37 (undo): hold 2", x.core(0, 4), 2);
+    }
+    Edge.Make one = Edge.after(Edge.machine("hold 1"), x -> x.create(3), x -> x.add(0, 0, 1, 1, 0), x -> x.add(0, 1, 0, 1, 1),
+        x -> x.add(0, 2, 0, 1, 1), x -> x.seal(0, Check.room(x, 0, 3)), x -> x.slots(), x -> x.undo());
+    stops("one is SEEN", one, "enter 0,0,0;touch 0,1,0;touch 0,2,0;block 2;touch 0,1,0", 4, 4);
   }
 
   /** One of each sort of ACT; each is UNDONE to what was ahead of it, hidden things too. */
@@ -287,6 +332,17 @@ public final class EdgesOfTimeTest {
       e.is("40 at most can be UNDONE", x.count(4), Math.min(40, 12 * i));
       e.is("SERIALS given", x.all(5), 6 * i);
     }
+  }
+
+  /** Each number of a STEP is told to its ACT in its place. */
+  private static void promise50NumbersOfSteps() {
+    Edge e = new Edge(check, "50 (perform)");
+    ClosedRooms x = Edge.script(TEN, "create 8;add 0,7,1,6,543;extend 0,7;map 0,5,9;map 0,4,0").make();
+    e.is("DO", x.perform(0), 5);
+    int[] due = {3, 0, 7, 6, 0, 0};
+    for (int what = 0; what < 6; what++) e.is("add, what " + what, x.page(1, what), due[what]);
+    e.is("its VALUE, by extend", Check.room(x, 0, 3), 31 * (31 * 15 + 64 * 7 + 8 + 6) + 1543);
+    e.is("map", x.mapped(0, 5) * 10 + x.mapped(0, 4), 90);
   }
 
   private static void promise50NoStatus() {
