@@ -149,6 +149,9 @@ public final class EdgesOfAskingTest {
     e.same("changed and changed back", Edge.after(TWELVE, x -> x.change(3, 1), x -> x.change(3, 50)), x -> x.old(), 8);
     Edge.Make gone = Edge.after(WITH_COPY, x -> x.remove(2), x -> x.remove(4), x -> x.remove(0));
     e.same("their ROOM is not there", gone, x -> x.old(), 1);
+    Edge.Make away = Edge.after(WITH_COPY, x -> x.remove(2), x -> x.remove(4), x -> x.evict(0, 1, 1));
+    e.same("their ROOM is there, though AWAY", away, x -> x.old(), 0);
+    e.same("the ROOT came back", Edge.after(away, x -> x.load(1, 1, 1)), x -> x.old(), 2);
     e.same("another ROOM is where it was", Edge.after(gone, x -> x.create(4)), x -> x.old(), 1);
     for (int slot = 0; slot < 4; slot++) {
       int one = slot;
@@ -214,6 +217,9 @@ public final class EdgesOfAskingTest {
     e.same("all, TRACKED", Edge.after(all, x -> x.track(0)), x -> x.leaks(0), 56);
     e.same("one CORE has left", Edge.after(all, x -> x.leave(0)), x -> x.leaks(0), 48);
     e.same("one CORE has left in haste", Edge.after(all, x -> x.trap(2)), x -> x.leaks(0), 40);
+    e.same("by the PAGE that is SEEN, whatever MAP tells", Edge.after(sees, x -> x.map(0, 3, 9), x -> x.block(5)), x -> x.leaks(0), 8);
+    e.same("not by the PAGE that MAP tells", Edge.after(HALL, x -> x.enter(0, 0, 0), x -> x.touch(0, 3, 0), x -> x.map(0, 3, 6), x -> x.block(6)),
+        x -> x.leaks(0), 0);
     e.same("an ENTRY that is BLOCKED is not SEEN", Edge.after(sees, x -> x.block(2)), x -> x.leaks(0), 0);
     Edge.Make large = Edge.after(TEN, x -> x.create(8), x -> x.add(0, 0, 1, 1, 0), x -> x.add(0, 7, 0, 1, 1), x -> x.seal(0, Check.room(x, 0, 3)),
         x -> x.enter(1, 0, 0), x -> x.touch(1, 7, 0), x -> x.block(2));

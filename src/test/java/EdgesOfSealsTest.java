@@ -28,6 +28,7 @@ public final class EdgesOfSealsTest {
     promise26EvictRefused();
     promise26EvictOfSeveralTheFirst();
     promise27LoadTakes();
+    promise27LoadOfSeveral();
     promise27LoadRefused();
     promise27LoadFound();
     promise27LoadOfSeveralTheFirst();
@@ -246,6 +247,23 @@ public final class EdgesOfSealsTest {
     int[] root = {1, 1, N, 0, 0, N};
     for (int what = 0; what < 6; what++) e.is("a ROOT as it was, what " + what, x.page(5, what), root[what]);
     e.is("no more AWAY", Check.room(x, 1, 5), 0);
+  }
+
+  /** Of the SLOTS that one alone is empty, of the COPIES none is gone. */
+  private static void promise27LoadOfSeveral() {
+    Edge e = new Edge(check, "27 (load)");
+    Edge.Make two = Edge.after(WITH_COPY, x -> x.slots(), x -> x.block(4), x -> x.track(0), x -> x.evict(4, 1, 3), x -> x.create(1),
+        x -> x.evict(4, 3, 0));
+    ClosedRooms x = Edge.after(two, y -> y.load(1, 1, 3)).make();
+    e.is("the SLOT of the other page", x.version(1, 0), 1);
+    e.is("the SLOT of this one", x.version(1, 3), 0);
+    e.is("the SLOT of the other ROOM", x.version(3, 0), 3);
+    e.is("COPIES", x.all(3), 7);
+    e.is("what is OLD", x.old(), 2);
+    e.is("ADDRESSES here", Check.room(x, 0, 7), 5);
+    e.is("ADDRESSES out", Check.room(x, 0, 8), 2);
+    e.is("the other ROOM is AWAY", Check.room(x, 1, 5), 1);
+    e.is("VERSIONS given", x.all(4), 3);
   }
 
   private static void promise27LoadRefused() {
