@@ -481,6 +481,22 @@ final class Mirror implements WalksTest.Guide {
     return drawers(page) != null;
   }
 
+  @Override
+  public int slotOf(int copy) {
+    Letter t = in(copy, 0, 11) ? letters[copy] : null;
+    for (int p = 0; t != null && p < pages; p++) {
+      for (int slot = 0; slot < 4 && drawers(p) != null; slot++) {
+        if (drawers(p).getOrDefault(slot, 0) == t.version) return 10 * p + slot;
+      }
+    }
+    return -1;
+  }
+
+  @Override
+  public boolean isInside(int core) {
+    return in(core, 0, cores - 1) && runners[core].by != null;
+  }
+
   int old() {
     int bits = 0;
     for (int i = 0; i < 12; i++) {

@@ -2,6 +2,10 @@ import java.io.IOException;
 import java.nio.charset.StandardCharsets;
 import java.nio.file.Files;
 import java.nio.file.Path;
+import java.util.ArrayDeque;
+import java.util.Collections;
+import java.util.Deque;
+import java.util.IdentityHashMap;
 import java.util.List;
 import java.util.Set;
 import java.util.TreeSet;
@@ -14,7 +18,7 @@ public final class SourceTest {
   private static final Pattern METHOD =
       Pattern.compile("^( +)(?:(?:public|private|static|final) )*(?:[A-Z]\\w*|int|boolean|void)(?:\\[\\])? ?(\\w*)\\((.*)\\).*\\{$");
 
-  public static void main(String[] args) throws IOException {
+  public static void main(String[] args) throws IOException, IllegalAccessException {
     Path file = Path.of("src/main/java/ClosedRooms.java");
     String text = Files.readString(file, StandardCharsets.ISO_8859_1);
     for (int i = 0; i < text.length(); i++) {
@@ -27,6 +31,7 @@ public final class SourceTest {
     calls(code);
     methods(List.of(code.split("\n", -1)));
     classes(code);
+    space();
     check.finish();
   }
 
@@ -104,5 +109,49 @@ public final class SourceTest {
       if (!java.lang.reflect.Modifier.isStatic(field.getModifiers())) fields++;
     }
     return fields;
+  }
+
+  /** Rule 12: what an object holds is some hundredth part of the room of a run, and calls make it no more. */
+  private static void space() throws IllegalAccessException {
+    ClosedRooms x = new ClosedRooms();
+    int[] made = held(x);
+    check.is("objects and arrays", made[0] <= 3000, true);
+    check.is("fields and elements", made[1] <= 30000, true);
+    Check.text(x, 0, "pages 10;cores 3");
+    for (int i = 0; i < 4; i++) Check.text(x, 1, "create 1;slots;add 0,0,1,1,1;seal 0;enter 0,0,0");
+    x.image();
+    for (int i = 0; i < 100; i++) {
+      x.perform(i % 4);
+      x.run(i % 4, 1);
+      x.undo();
+      x.spell(0, 0);
+    }
+    int[] then = held(x);
+    check.is("objects and arrays behind calls", then[0], made[0]);
+    check.is("fields and elements behind calls", then[1], made[1]);
+  }
+
+  /** How many objects and arrays, and how many fields and elements, can be reached from this one. */
+  private static int[] held(Object from) throws IllegalAccessException {
+    Set<Object> found = Collections.newSetFromMap(new IdentityHashMap<>());
+    Deque<Object> left = new ArrayDeque<>(List.of(from));
+    int cells = 0;
+    while (!left.isEmpty()) {
+      Object one = left.remove();
+      if (!found.add(one)) continue;
+      if (one.getClass().isArray()) {
+        int length = java.lang.reflect.Array.getLength(one);
+        cells += length;
+        for (int i = 0; one instanceof Object[] && i < length; i++) left.add(((Object[]) one)[i]);
+        continue;
+      }
+      for (java.lang.reflect.Field field : one.getClass().getDeclaredFields()) {
+        if (java.lang.reflect.Modifier.isStatic(field.getModifiers())) continue;
+        cells++;
+        field.setAccessible(true);
+        if (!field.getType().isPrimitive() && field.get(one) != null) left.add(field.get(one));
+      }
+    }
+    return new int[] {found.size(), cells};
   }
 }

@@ -14,6 +14,16 @@ public final class WalksTest {
     int victim();
 
     boolean isSlots(int page);
+
+    /** Where the VERSION of a COPY lies: ten times the PAGE and the SLOT; NONE: nowhere, or it is not looked at. */
+    default int slotOf(int copy) {
+      return Check.N;
+    }
+
+    /** Whether a CORE is inside; false where that is not looked at. */
+    default boolean isInside(int core) {
+      return false;
+    }
   }
 
   private static final class Eye implements Guide {
@@ -43,19 +53,28 @@ public final class WalksTest {
   private static final int[] FAR = {Integer.MIN_VALUE, Integer.MAX_VALUE, -1, -2, 1000, -1000000, 1 << 30, 12, 999, 1 << 31 | 3};
   private static final int[] OFTEN = {0, 1, 2, 2, 2, 2, 3, 4, 5, 5, 5, 6, 7, 8, 8, 9, 9, 9, 9, 10, 10, 11, 11, 12, 12, 12, 13, 13, 13, 14,
       15, 16, 17, 18, 19};
+  /** For walks that begin with ROOMS that are SEALED: what CORES do, and pages that go and come. */
+  private static final int[] OFTEN_SEALED = {0, 1, 2, 3, 5, 5, 5, 5, 6, 6, 7, 7, 8, 8, 8, 9, 9, 9, 9, 9, 9, 9, 10, 10, 10, 11, 11, 11, 12, 12, 12,
+      13, 13, 13, 13, 14, 15, 15, 16, 17, 18, 19};
+  /** ROOM 0 (SIZE 5: two ENTRIES, three PLAIN pages), SLOTS, ROOM 1 (SIZE 3: an ENTRY), both SEALED; PAGE 9 is FREE. */
+  private static final int[][] SEALED_ROOMS = {{0, 5}, {1}, {2, 0, 0, 1, 4, 11}, {2, 0, 1, 1, 5, 12}, {2, 0, 2, 0, 7, 50}, {2, 0, 3, 0, 3, 60},
+      {2, 0, 4, 0, 7, 999}, {3, 0, 2}, {4, 0}, {0, 3}, {2, 1, 0, 1, 1, 5}, {4, 1}};
   private static final String[] WORDS = {"create", "slots", "add", "extend", "seal", "enter", "leave", "trap", "resume", "touch",
       "block", "track", "evict", "load", "remove", "map"};
   private static final int[] NUMBERS = {1, 0, 5, 2, 1, 3, 1, 1, 3, 3, 1, 1, 3, 3, 1, 3};
+  /** How often an ACT of each sort was done as the mirror went along. */
+  private static final int[] done = new int[20];
   private static long seed = 20261118;
 
   public static void main(String[] args) {
-    for (int walk = 0; walk < 1500; walk++) mirroredWalk(walk);
+    for (int walk = 0; walk < 3000; walk++) mirroredWalk(walk);
     for (int walk = 0; walk < 1000; walk++) scriptedWalk(walk);
     for (int walk = 0; walk < 1500; walk++) wildWalk(walk);
+    for (int sort = 0; sort < 20; sort++) check.is("ACTS of sort " + sort + " that were done are many", done[sort] > 100, true);
     check.finish();
   }
 
-  private static int any(int bound) {
+  static int any(int bound) {
     seed = seed * 6364136223846793005L + 1442695040888963407L;
     return (int) ((seed >>> 33) % bound);
   }
@@ -66,8 +85,12 @@ public final class WalksTest {
 
   /** An ACT that often can be: sort and five numbers. */
   private static int[] nextAct(Guide guide, int pages, int cores) {
+    return nextAct(guide, pages, cores, OFTEN);
+  }
+
+  private static int[] nextAct(Guide guide, int pages, int cores, int[] often) {
     int[] t = new int[6];
-    t[0] = OFTEN[any(OFTEN.length)];
+    t[0] = often[any(often.length)];
     int room = some(any(3) == 0 ? 4 : 2);
     int page = some(pages);
     int core = some(cores);
@@ -80,18 +103,32 @@ public final class WalksTest {
       case 5:
       case 8: return fill(t, core, room, some(3));
       case 6:
-      case 7: return fill(t, core);
-      case 9: return fill(t, core, some(4), some(3));
+      case 7: return fill(t, coreInside(guide, cores));
+      case 9: return fill(t, coreInside(guide, cores), some(5), some(3));
       case 10: return fill(t, page);
       case 11: return fill(t, room);
       case 12: return fill(t, any(3) == 0 ? page : guide.victim(), slotsOf(guide, pages), some(4));
-      case 13: return fill(t, some(4), slotsOf(guide, pages), some(4));
+      case 13: return nextLoad(t, guide, pages);
       case 14: return fill(t, page);
       case 15: return fill(t, room, some(4), some(pages + 1) - 1);
       case 17: return fill(t, some(6), some(1000));
       case 19: return fill(t, core, some(1000));
       default: return fill(t, some(any(2) == 0 ? 3 : 12));
     }
+  }
+
+  private static int coreInside(Guide guide, int cores) {
+    for (int i = 0; i < 4; i++) {
+      int core = any(cores);
+      if (guide.isInside(core)) return core;
+    }
+    return some(cores);
+  }
+
+  private static int[] nextLoad(int[] t, Guide guide, int pages) {
+    int copy = some(4);
+    int where = any(3) == 0 ? Check.N : guide.slotOf(copy);
+    return where == Check.N ? fill(t, copy, slotsOf(guide, pages), some(4)) : fill(t, copy, where / 10, where % 10);
   }
 
   private static int slotsOf(Guide guide, int pages) {
@@ -132,16 +169,43 @@ public final class WalksTest {
     }
   }
 
+  /** An object behind some of these ACTS, the same ones for the same number: ten PAGES, three CORES, up to 170 calls. */
+  static ClosedRooms behindActs(long from) {
+    seed = from;
+    int hold = 1 + any(3);
+    ClosedRooms x = Check.machine("pages 10;cores 3;hold " + hold + ";key " + (1 + any(999)));
+    Mirror mirror = new Mirror(10, 3, hold);
+    boolean sealed = any(4) != 0;
+    if (sealed) buildRooms(x, mirror, "from " + from);
+    for (int i = any(150); i > 0; i--) {
+      int[] t = nextAct(mirror, 10, 3, sealed ? OFTEN_SEALED : OFTEN);
+      call(x, t);
+      mirror.act(t);
+    }
+    return x;
+  }
+
+  private static void buildRooms(ClosedRooms x, Mirror mirror, String at) {
+    for (int[] told : SEALED_ROOMS) {
+      int[] t = Arrays.copyOf(told, 6);
+      if (t[0] == 4) t[2] = mirror.measure(t[1]);
+      sameAnswer(x, mirror, t, at + ", built");
+    }
+  }
+
   /** Some ACTS and UNDOS, each answered as the mirror's; then all that can be seen is as it is there. */
   private static void mirroredWalk(int walk) {
-    int pages = walk % 4 == 0 ? 3 + any(8) : 10;
-    int cores = 1 + any(3);
+    boolean sealed = walk % 3 != 0;
+    int pages = walk % 4 == 0 && !sealed ? 3 + any(8) : 10;
+    int cores = sealed ? 3 : 1 + any(3);
     int hold = 1 + any(3);
     ClosedRooms x = Check.machine("pages " + pages + ";cores " + cores + ";hold " + hold);
     Mirror mirror = new Mirror(pages, cores, hold);
-    int calls = 1 + any(130);
+    int calls = 1 + any(sealed ? 118 : 130);
+    if (sealed) buildRooms(x, mirror, "walk " + walk);
     for (int i = 0; i < calls; i++) {
-      if (!sameAnswer(x, mirror, any(20) == 0 ? null : nextAct(mirror, pages, cores), "walk " + walk + ", call " + i)) return;
+      int[] t = any(20) == 0 ? null : nextAct(mirror, pages, cores, sealed ? OFTEN_SEALED : OFTEN);
+      if (!sameAnswer(x, mirror, t, "walk " + walk + ", call " + i)) return;
     }
     for (int i = any(4) == 0 ? any(50) : 0; i > 0; i--) {
       if (!sameAnswer(x, mirror, null, "walk " + walk + ", UNDO at its end")) return;
@@ -151,9 +215,11 @@ public final class WalksTest {
   }
 
   private static boolean sameAnswer(ClosedRooms x, Mirror mirror, int[] t, String at) {
+    int refused = Arrays.stream(mirror.status).sum();
     int got = t == null ? x.undo() : call(x, t);
     int due = t == null ? mirror.undo() : mirror.act(t);
     check.is(at + (t == null ? " UNDO" : " " + Arrays.toString(t)), got, due);
+    if (t != null && Arrays.stream(mirror.status).sum() == refused) done[t[0]]++;
     return got == due;
   }
 
@@ -161,14 +227,16 @@ public final class WalksTest {
   private static void scriptedWalk(int walk) {
     ClosedRooms x = Check.machine("pages 10;cores 3");
     Mirror mirror = new Mirror(10, 3, 2);
+    int[] often = walk % 3 == 0 ? OFTEN : OFTEN_SEALED;
+    if (walk % 3 != 0) buildRooms(x, mirror, "scripted walk " + walk);
     for (int i = any(60); i > 0; i--) {
-      if (!sameAnswer(x, mirror, nextAct(mirror, 10, 3), "scripted walk " + walk)) return;
+      if (!sameAnswer(x, mirror, nextAct(mirror, 10, 3, often), "scripted walk " + walk)) return;
     }
     List<String> steps = new ArrayList<>();
     int done = 0;
     int failed = -1;
     for (int i = 1 + any(12); i > 0; i--) {
-      int[] t = nextStep(mirror);
+      int[] t = nextStep(mirror, often);
       steps.add(told(t));
       if (failed >= 0) continue;
       if (t[0] == 4) t[2] = mirror.measure(t[1]);
@@ -191,9 +259,9 @@ public final class WalksTest {
     return text.toString();
   }
 
-  private static int[] nextStep(Guide guide) {
+  private static int[] nextStep(Guide guide, int[] often) {
     for (int i = 0; i < 100; i++) {
-      int[] t = nextAct(guide, 10, 3);
+      int[] t = nextAct(guide, 10, 3, often);
       boolean fits = t[0] < 16;
       for (int k = 1; k < 6; k++) fits = fits && (t[0] == 4 && k == 2 || t[k] >= 0 && t[k] <= 999);
       if (fits) return t;
